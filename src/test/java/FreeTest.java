@@ -51,6 +51,8 @@ public final class FreeTest {
         Due.is("15: first", x.holds(9, 0), 3);
         Due.is("15: second", x.holds(9, 1), 7);
         Due.is("15: none", x.holds(9, 2), Due.NONE);
+        Due.is("15: not who begins behind it", x.holds(4, 1), Due.NONE);
+        Due.is("15: not who ended at it", x.holds(10, 0), 7);
         Due.is("15: i 47", x.holds(9, 47), Due.NONE);
         Due.is("15: i 48", x.holds(9, 48), Due.BAD);
         Due.is("15: i -2", x.holds(9, -2), Due.BAD);

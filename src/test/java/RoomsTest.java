@@ -2,6 +2,7 @@
 public final class RoomsTest {
     public static void main(String[] args) {
         deepAndPoint();
+        firstAfterChange();
         room();
         keep();
         clashes();
@@ -36,6 +37,27 @@ public final class RoomsTest {
         x.drop(5);
         Due.is("20: three", x.deep(), 3);
         Due.is("21: three", x.point(), -20);
+    }
+
+    /** A call that comes first after a change must not answer from before it. */
+    private static void firstAfterChange() {
+        Due.is("20: first", Due.book(0, 5, 10).deep(), 1);
+        Due.is("21: first", Due.book(0, 5, 10).point(), 5);
+        Due.is("22: first", Due.book(0, 5, 10).room(Due.NONE), 1);
+        Due.is("23: first", Due.book(0, 5, 10).keep(0), 0);
+        Due.is("24: first", Due.book(0, 5, 10, 1, 5, 6).clashes(), 1);
+        Due.is("25: first", Due.book(0, 5, 10, 1, 5, 6).clash(0, 0), 1);
+        Due.is("26: first", Due.book(0, 5, 10).alone(), 1);
+        Due.is("27: first", Due.book(0, 5, 10).group(0, 1), 1);
+        Due.is("10: first", Due.book(0, 5, 10).root(), 0);
+        Due.is("11: first", Due.book(0, 5, 10).tree(0, 4), 1);
+        Due.is("12: first", Due.book(0, 5, 10).end(0), 10);
+        Due.is("13: first", Due.book(0, 5, 10).looks(0, 1), 1);
+        Due.is("16: first", Due.book(0, 5, 10).taken(0, 9), 4);
+        Due.is("17: first", Due.book(0, 5, 10).frees(0, 11), 2);
+        Due.is("18: first", Due.book(0, 5, 10).free(0, 11, 0, 1), 5);
+        Due.is("19: first", Due.book(0, 5, 10).place(6, 1, 0), 10);
+        Due.is("34: first", Due.book(0, 5, 10).count(6), 1);
     }
 
     private static void room() {

@@ -22,7 +22,9 @@ public final class SheetsTest {
         Due.is("28: ints, none", x.sheet(3, 2, 0), 0);
         Due.is("28: 0 at first", x.get(0, 0, 59), 0);
         Due.is("28: lay", x.lay(0, 0, 59, 7), 1);
+        Due.is("28: lay", x.lay(0, 0, 0, 7), 1);
         Due.is("28: a new row", x.sheet(0, 0, 60), 60);
+        Due.is("28: 0 at first", x.get(0, 0, 0), 0);
         Due.is("28: 0 at first", x.get(0, 0, 59), 0);
         Due.is("28: another form", x.sheet(0, 2, 3), 3);
         Due.is("28: another form", x.get(0, 2, 2), 0);
@@ -187,6 +189,9 @@ public final class SheetsTest {
         Due.is("33: one", x.write(-11, 0, 0), 1);
         isRow("33: the others stay", x, 0, 47, 7, 12, 99);
         Due.is("33: none", x.write(15, 20, 0), 0);
+        x.put(40, 100, 110);
+        x.undo();
+        Due.is("33: not who is gone", x.write(25, 200, 0), 1);
         x.sheet(1, 0, 2);
         Due.is("33: as many as items", x.write(Due.LOW, Due.HIGH, 1), 2);
         Due.is("33: bytes", x.get(1, 0, 0), 47);
