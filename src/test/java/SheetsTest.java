@@ -134,22 +134,16 @@ public final class SheetsTest {
         return x;
     }
 
-    private static void isRow(String call, SpanBook x, int s, int... items) {
-        for (int i = 0; i < items.length; i++) {
-            Due.is(call + ", item " + i, x.get(s, 2, i), items[i]);
-        }
-    }
-
     private static void copy() {
         SpanBook x = rows();
         Due.is("32: copy", x.copy(0, 4, 1, 1, 2), 1);
-        isRow("32: copy", x, 1, 0, 14, 15);
-        isRow("32: the source stays", x, 0, 10, 11, 12, 13, 14, 15);
+        Due.isRow("32: copy", x, 1, 2, 0, 14, 15);
+        Due.isRow("32: the source stays", x, 0, 2, 10, 11, 12, 13, 14, 15);
         Due.is("32: none", x.copy(0, 6, 1, 3, 0), 1);
         Due.is("32: to the right, as they were", x.copy(0, 0, 0, 2, 4), 1);
-        isRow("32: to the right", x, 0, 10, 11, 10, 11, 12, 13);
+        Due.isRow("32: to the right", x, 0, 2, 10, 11, 10, 11, 12, 13);
         Due.is("32: to the left, as they were", x.copy(0, 1, 0, 0, 5), 1);
-        isRow("32: to the left", x, 0, 11, 10, 11, 12, 13, 13);
+        Due.isRow("32: to the left", x, 0, 2, 11, 10, 11, 12, 13, 13);
         Due.is("32: all", x.copy(0, 0, 0, 0, 6), 1);
         x.sheet(3, 0, 6);
         x.lay(2, 0, 0, -5);
@@ -176,8 +170,8 @@ public final class SheetsTest {
             latest = c[5] == Due.BAD ? latest : -10 - c[5];
             Due.is("32: FINDING", x.count(8), latest);
         }
-        isRow("32: nothing changed", x, 0, 10, 11, 12, 13, 14, 15);
-        isRow("32: nothing changed", x, 1, 0, 0, 0);
+        Due.isRow("32: nothing changed", x, 0, 2, 10, 11, 12, 13, 14, 15);
+        Due.isRow("32: nothing changed", x, 1, 2, 0, 0, 0);
     }
 
     private static void write() {
@@ -185,9 +179,9 @@ public final class SheetsTest {
         x.sheet(0, 2, 6);
         x.lay(0, 2, 3, 99);
         Due.is("33: how many", x.write(0, 30, 0), 3);
-        isRow("33: in ORDER", x, 0, 3, 7, 12, 99, 0, 0);
+        Due.isRow("33: in ORDER", x, 0, 2, 3, 7, 12, 99, 0, 0);
         Due.is("33: one", x.write(-11, 0, 0), 1);
-        isRow("33: the others stay", x, 0, 47, 7, 12, 99);
+        Due.isRow("33: the others stay", x, 0, 2, 47, 7, 12, 99);
         Due.is("33: none", x.write(15, 20, 0), 0);
         x.put(40, 100, 110);
         x.undo();

@@ -135,7 +135,7 @@ public final class SpansTest {
 
     private static void undoOfFill() {
         SpanBook x = new SpanBook();
-        row(x, 0, 2, 1, 2, 3, 4, 5, 6);
+        Due.row(x, 0, 2, 1, 2, 3, 4, 5, 6);
         Due.is("5: fill", x.fill(0), 3);
         Due.is("5: each by itself", x.undo(), 2);
         Due.is("5: two are left", x.count(0), 2);
@@ -150,25 +150,25 @@ public final class SpansTest {
         Due.is("6: BAD is no FINDING", x.count(8), 0);
         Due.is("6: LOST", x.fill(3), Due.NULL);
         Due.is("6: FINDING", x.count(8), 1);
-        row(x, 0, 2, 5, 9, 7, 8, -3, -2, 4);
+        Due.row(x, 0, 2, 5, 9, 7, 8, -3, -2, 4);
         Due.is("6: three are whole", x.fill(0), 3);
         Due.is("6: least key", x.span(0, 1), 9);
         Due.is("6: not one that is there", x.span(1, 0), 100);
         Due.is("6: the next", x.span(2, 0), 7);
         Due.is("6: the next", x.span(3, 1), -2);
         Due.is("6: each is DONE", x.count(1), 4);
-        row(x, 1, 2, 1, 2, 4, 4, 5, 6);
+        Due.row(x, 1, 2, 1, 2, 4, 4, 5, 6);
         Due.is("6: as long as each may be", x.fill(1), 1);
         Due.is("6: not beyond", x.count(0), 5);
-        row(x, 1, 2, 1, Due.HIGH + 1, 5, 6);
+        Due.row(x, 1, 2, 1, Due.HIGH + 1, 5, 6);
         Due.is("6: out of THE RANGE", x.fill(1), 0);
-        row(x, 1, 2, Due.LOW - 1, 0);
+        Due.row(x, 1, 2, Due.LOW - 1, 0);
         Due.is("6: out of THE RANGE", x.fill(1), 0);
-        row(x, 1, 2, Due.LOW, Due.HIGH);
+        Due.row(x, 1, 2, Due.LOW, Due.HIGH);
         Due.is("6: all of it", x.fill(1), 1);
-        row(x, 1, 2);
+        Due.row(x, 1, 2);
         Due.is("6: no items", x.fill(1), 0);
-        row(x, 1, 2, 5);
+        Due.row(x, 1, 2, 5);
         Due.is("6: one item", x.fill(1), 0);
     }
 
@@ -178,7 +178,7 @@ public final class SpansTest {
         for (int i = 0; i < 60; i++) {
             items[i] = i;
         }
-        row(x, 2, 0, items);
+        Due.row(x, 2, 0, items);
         Due.is("6: thirty", x.fill(2), 30);
         Due.is("6: as long as there is a key", x.fill(2), 18);
         Due.is("6: no key left", x.fill(2), 0);
@@ -192,9 +192,9 @@ public final class SpansTest {
 
     private static void fillForms() {
         SpanBook x = new SpanBook();
-        row(x, 0, 0, -128, 127);
-        row(x, 1, 1, -32768, 32767);
-        row(x, 2, 0, 127, 128);
+        Due.row(x, 0, 0, -128, 127);
+        Due.row(x, 1, 1, -32768, 32767);
+        Due.row(x, 2, 0, 127, 128);
         Due.is("6: bytes", x.fill(0), 1);
         Due.is("6: bytes", x.span(0, 0), -128);
         Due.is("6: shorts", x.fill(1), 1);
@@ -213,12 +213,5 @@ public final class SpansTest {
         Due.is("7: key 48", x.span(48, 0), Due.LEAST);
         Due.is("7: what -1", x.span(3, -1), Due.LEAST);
         Due.is("7: what 2", x.span(3, 2), Due.LEAST);
-    }
-
-    private static void row(SpanBook x, int s, int form, int... items) {
-        Due.is("28: sheet", x.sheet(s, form, items.length), items.length);
-        for (int i = 0; i < items.length; i++) {
-            Due.is("30: lay", x.lay(s, form, i, items[i]), 1);
-        }
     }
 }
