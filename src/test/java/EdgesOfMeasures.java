@@ -148,6 +148,12 @@ final class EdgesOfMeasures {
         SpanBook x = Due.book(0, 0, 5, 1, 4, 8, 2, 7, 9);
         Due.is("who MEETS one that is not kept", x.keep(1), 2);
         Due.is("how many", x.keep(Due.NONE), 2);
+        Due.is("one within another, below 0", Due.book(5, -100, -1, 6, -50, -40).keep(Due.NONE), 1);
+        SpanBook gone = Due.book(5, 0, 1, 9, 500, 501);
+        Due.is("both", gone.keep(Due.NONE), 2);
+        gone.drop(9);
+        gone.put(6, -7, 1);
+        Due.is("none that is taken out", gone.keep(Due.NONE), 1);
         Due.is("48 like ones", Due.all(0, 0, 1, 0).keep(Due.NONE), 1);
         Due.is("48 that touch", Due.all(0, 1, 1, 1).keep(Due.NONE), 48);
         Due.is("none", new SpanBook().keep(Due.NONE), 0);
