@@ -99,6 +99,11 @@ final class EdgesOfTerms {
         Due.is("put as the 512th call", after511().put(6, 0, 1), 2);
         Due.is("taken as the 512th call", after511().taken(0, 515), 5);
         Due.is("count(1) as the 512th call", after511().count(1), 64);
+        SpanBook puts = new SpanBook();
+        for (int i = 1; i <= 511; i++) {
+            Due.is("put as call " + i, puts.put(5, 0, 1), i == 1 ? 1 : Due.NOT);
+        }
+        Due.is("put as the 512th put", puts.put(6, 0, 1), 2);
     }
 
     private static void laterCalls() {
