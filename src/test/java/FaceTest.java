@@ -69,6 +69,12 @@ public final class FaceTest {
             boolean closed = Modifier.isPrivate(method.getModifiers()) && !names.contains(method.getName());
             Due.holds("rule 1: " + method, open || closed || method.isSynthetic());
         }
+        for (Class<?> inside : SpanBook.class.getDeclaredClasses()) {
+            for (Method method : inside.getDeclaredMethods()) {
+                boolean closed = Modifier.isPrivate(method.getModifiers());
+                Due.holds("rule 1: the name of " + method, !closed || !names.contains(method.getName()));
+            }
+        }
         Set<String> constants = new TreeSet<>();
         for (Field field : SpanBook.class.getDeclaredFields()) {
             if (!Modifier.isPrivate(field.getModifiers())) {
